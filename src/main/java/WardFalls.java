@@ -28,8 +28,7 @@ public final class WardFalls {
     private static final long ERROR = Long.MIN_VALUE;
 
     /** The words of the language; a word's kind of TOKEN is its number here. */
-    private static final String WORDS = "town ward part wall stair thing seed law up right down left still "
-            + "push joy or and not rich size here worth cross against year ";
+    private static final String WORDS = "town ward part wall stair thing seed law up right down left still push joy or and not rich size here worth cross against year ";
     private static final int TOWN = 0;
     private static final int WARD = 1;
     private static final int PART = 2;
@@ -89,7 +88,6 @@ public final class WardFalls {
     private final Past past = new Past();
     private final Notes notes = new Notes();
     private final Laws laws = new Laws();
-    private final Votes votes = new Votes();
     private final Paths paths = new Paths();
     private final Trail trail = new Trail();
 
@@ -271,7 +269,7 @@ public final class WardFalls {
         if (n > 0) {
             chronicle.beats += n;
             past.clear();
-            votes.ready = false;
+            laws.votesTried = false;
         }
         return gone;
     }
@@ -292,7 +290,7 @@ public final class WardFalls {
         }
         past.remember(scene);
         scene.nets ^= 1L << cell;
-        votes.ready = false;
+        laws.votesTried = false;
         return true;
     }
 
@@ -302,7 +300,7 @@ public final class WardFalls {
         }
         past.remember(scene);
         put(scene.at, thing, cell);
-        votes.ready = false;
+        laws.votesTried = false;
         return true;
     }
 
@@ -425,10 +423,10 @@ public final class WardFalls {
     }
 
     public int stays() {
-        fillVotes();
+        laws.tryVotes(town, scene, trial, chronicle.year);
         int much = 0;
-        for (int i = 0; i < votes.all; i++) {
-            if (votes.isStay(i)) {
+        for (int i = 0; i < laws.allVotes; i++) {
+            if (laws.isStay(i)) {
                 much++;
             }
         }
@@ -439,10 +437,10 @@ public final class WardFalls {
         if (k < 0) {
             return NONE;
         }
-        fillVotes();
+        laws.tryVotes(town, scene, trial, chronicle.year);
         int left = k;
-        for (int i = 0; i < votes.all; i++) {
-            if (votes.isStay(i)) {
+        for (int i = 0; i < laws.allVotes; i++) {
+            if (laws.isStay(i)) {
                 if (left == 0) {
                     return i;
                 }
@@ -456,12 +454,12 @@ public final class WardFalls {
         if (what < 0 || what > 1) {
             return NONE;
         }
-        fillVotes();
+        laws.tryVotes(town, scene, trial, chronicle.year);
         laws.measure(town, scene);
         int best = LACKING;
         int bestSum = LACKING;
-        for (int i = 0; i < votes.all; i++) {
-            int sum = votes.isStay(i) ? treatySum(i) : LACKING;
+        for (int i = 0; i < laws.allVotes; i++) {
+            int sum = laws.isStay(i) ? treatySum(i) : LACKING;
             if (sum > bestSum) {
                 best = i;
                 bestSum = sum;
@@ -474,10 +472,10 @@ public final class WardFalls {
         if (votes < 0 || votes >= 1 << 2 * town.wards || what < 0 || what > 1) {
             return NONE;
         }
-        fillVotes();
+        laws.tryVotes(town, scene, trial, chronicle.year);
         int now = votes;
         for (int i = 0; i <= MOST_MOVES; i++) {
-            int then = this.votes.moved(now);
+            int then = laws.moved(now);
             if (then == now) {
                 return what == 0 ? i : now;
             }
@@ -509,7 +507,7 @@ public final class WardFalls {
     }
 
     public int fits() {
-        findFits();
+        notes.findFits(town, scene, trial, trail);
         return notes.fitting;
     }
 
@@ -517,7 +515,7 @@ public final class WardFalls {
         if (!town.hasWard(ward)) {
             return NONE;
         }
-        findFits();
+        notes.findFits(town, scene, trial, trail);
         return look(notes.fittingDowns, ward);
     }
 
@@ -530,7 +528,7 @@ public final class WardFalls {
         }
         if (n > 0) {
             past.clear();
-            votes.ready = false;
+            laws.votesTried = false;
         }
         return chronicle.year;
     }
@@ -583,7 +581,7 @@ public final class WardFalls {
         if (!past.takeBack(scene)) {
             return NONE;
         }
-        votes.ready = false;
+        laws.votesTried = false;
         return past.much;
     }
 
@@ -601,7 +599,7 @@ public final class WardFalls {
         scene.copy(imageScene);
         chronicle.copy(imageChronicle);
         past.clear();
-        votes.ready = false;
+        laws.votesTried = false;
         return chronicle.year;
     }
 
@@ -644,7 +642,7 @@ public final class WardFalls {
         hasImage = false;
         past.clear();
         notes.clear();
-        votes.ready = false;
+        laws.votesTried = false;
     }
 
     private void feedFour(int number) {
@@ -684,23 +682,11 @@ public final class WardFalls {
         paths.find(town, from, to);
     }
 
-    private void findFits() {
-        trial.copy(scene);
-        notes.findFits(town, trial, trail);
-    }
-
-    private void fillVotes() {
-        if (!votes.ready) {
-            trial.copy(scene);
-            votes.fill(town, trial, laws, chronicle.year);
-        }
-    }
-
     /** All JOY by these VOTES; LACKING, if a WARD has less than the measured one. */
     private int treatySum(int by) {
         int sum = 0;
         for (int i = 0; i < town.wards; i++) {
-            int joy = votes.joyBy(i, by);
+            int joy = laws.joyBy(i, by);
             if (joy < laws.joyOf(town, i, chronicle.year)) {
                 return LACKING;
             }
@@ -764,10 +750,6 @@ public final class WardFalls {
                 }
             }
             add(END, 0, length);
-        }
-
-        int kindAt(int i) {
-            return i >= 0 && i < much ? look(kinds, i) : END;
         }
 
         private void add(int kind, int value, int place) {
@@ -883,11 +865,13 @@ public final class WardFalls {
 
     /** Reads LINES into a Town, up to the first FAULT. */
     private static final class Reader {
-        final Formulas formulas = new Formulas();
         Tokens tokens;
+        /** The TOKEN that comes next, and where the one ahead of it stands. */
         int spot;
-        int number;
-        int name;
+        int kind;
+        int value;
+        int placeHere;
+        int placeAhead;
         int parts;
         boolean townTold;
         boolean seedTold;
@@ -896,16 +880,39 @@ public final class WardFalls {
 
         /** How many LINES; NONE with a FAULT. */
         int read(Tokens all, Town town) {
-            tokens = all;
-            spot = 0;
-            parts = 0;
-            townTold = false;
-            seedTold = false;
-            fault = 0;
-            place = NONE;
+            begin(all);
             int lines = 0;
-            for (int i = 0; i < MOST_BYTES && kindHere() != END; i++) {
-                if (!readLine(town) || !take(SEMICOLON)) {
+            for (int i = 0; i < MOST_BYTES && kind != END; i++) {
+                boolean good;
+                switch (kind) {
+                    case TOWN:
+                        good = readTown(town);
+                        break;
+                    case WARD:
+                        good = readWard(town);
+                        break;
+                    case PART:
+                        good = readPart(town);
+                        break;
+                    case WALL:
+                        good = readWall(town);
+                        break;
+                    case STAIR:
+                        good = readStair(town);
+                        break;
+                    case THING:
+                        good = readThing(town);
+                        break;
+                    case SEED:
+                        good = readSeed(town);
+                        break;
+                    case LAW:
+                        good = readLaw(town);
+                        break;
+                    default:
+                        good = refuse(1, placeHere);
+                }
+                if (!good || !take(SEMICOLON)) {
                     return NONE;
                 }
                 lines++;
@@ -914,100 +921,82 @@ public final class WardFalls {
             return lines;
         }
 
-        private boolean readLine(Town town) {
-            switch (kindHere()) {
-                case TOWN:
-                    return readTown(town);
-                case WARD:
-                    return readWard(town);
-                case PART:
-                    return readPart(town);
-                case WALL:
-                    return readWall(town);
-                case STAIR:
-                    return readStair(town);
-                case THING:
-                    return readThing(town);
-                case SEED:
-                    return readSeed(town);
-                case LAW:
-                    return readLaw(town);
-                default:
-                    return refuse(1, spot);
-            }
+        private void begin(Tokens all) {
+            tokens = all;
+            parts = 0;
+            townTold = false;
+            seedTold = false;
+            fault = 0;
+            place = NONE;
+            placeHere = NONE;
+            goTo(0);
         }
 
         private boolean readTown(Town town) {
             if (townTold) {
-                return refuse(3, spot);
+                return refuse(3, placeHere);
             }
             if (parts > 0 || town.walls != 0 || town.stairs != 0 || town.things > 0) {
-                return refuse(4, spot);
+                return refuse(4, placeHere);
             }
             townTold = true;
-            spot++;
-            if (!takeNumber(1, 8)) {
+            goTo(spot + 1);
+            int wide = takeNumber(1, 8);
+            int high = wide < 0 ? NONE : takeNumber(1, 6);
+            if (high < 0) {
                 return false;
             }
-            town.wide = number;
-            if (!takeNumber(1, 6)) {
-                return false;
-            }
-            town.high = number;
+            town.wide = wide;
+            town.high = high;
             return true;
         }
 
         private boolean readWard(Town town) {
             if (town.wards >= MOST_WARDS) {
-                return refuse(2, spot);
+                return refuse(2, placeHere);
             }
-            spot++;
-            if (!takeNewName(town.wardNames, town.wards)) {
+            goTo(spot + 1);
+            int name = takeNewName(town.wardNames, town.wards);
+            if (name < 0) {
                 return false;
             }
-            int down = kindHere() - UP;
+            int down = kind - UP;
             if (!isDown(down)) {
-                return refuse(1, spot);
+                return refuse(1, placeHere);
             }
-            spot++;
-            if (!takeNumber(0, 99)) {
+            goTo(spot + 1);
+            int rich = takeNumber(0, 99);
+            if (rich < 0) {
                 return false;
             }
             put(town.wardNames, town.wards, name);
             put(town.wardDowns, town.wards, down);
-            put(town.riches, town.wards, number);
+            put(town.riches, town.wards, rich);
             town.wards++;
             return true;
         }
 
         private boolean readPart(Town town) {
             if (parts >= MOST_PARTS) {
-                return refuse(2, spot);
+                return refuse(2, placeHere);
             }
-            spot++;
-            if (!takeName()) {
+            goTo(spot + 1);
+            int name = value;
+            if (!take(NAME)) {
                 return false;
             }
             int ward = indexOf(town.wardNames, town.wards, name);
             if (ward < 0) {
-                return refuse(4, spot - 1);
+                return refuse(4, placeAhead);
             }
-            if (!takeNumber(0, town.wide - 1)) {
+            int left = takeNumber(0, town.wide - 1);
+            int top = left < 0 ? NONE : takeNumber(0, town.high - 1);
+            int right = top < 0 ? NONE : takeNumber(left, town.wide - 1);
+            int bottom = right < 0 ? NONE : takeNumber(top, town.high - 1);
+            if (bottom < 0) {
                 return false;
             }
-            int left = number;
-            if (!takeNumber(0, town.high - 1)) {
-                return false;
-            }
-            int top = number;
-            if (!takeNumber(left, town.wide - 1)) {
-                return false;
-            }
-            int right = number;
-            if (!takeNumber(top, town.high - 1)) {
-                return false;
-            }
-            for (int y = top; y <= number; y++) {
+            for (int y = top; y <= bottom; y++) {
                 for (int x = left; x <= right; x++) {
                     put(town.owners, y * town.wide + x, ward);
                 }
@@ -1018,144 +1007,149 @@ public final class WardFalls {
 
         private boolean readWall(Town town) {
             if (Long.bitCount(town.walls) >= MOST_WALLS) {
-                return refuse(2, spot);
+                return refuse(2, placeHere);
             }
-            spot++;
-            if (!takeCell(town)) {
+            goTo(spot + 1);
+            int cell = takeCell(town);
+            if (cell < 0) {
                 return false;
             }
-            if (bitOf(town.walls, number) == 1) {
-                return refuse(3, spot - 1);
+            if (bitOf(town.walls, cell) == 1) {
+                return refuse(3, placeAhead);
             }
-            if (bitOf(town.stairs, number) == 1 || indexOf(town.places, town.things, number) >= 0) {
-                return refuse(5, spot - 1);
+            if (bitOf(town.stairs, cell) == 1 || indexOf(town.places, town.things, cell) >= 0) {
+                return refuse(5, placeAhead);
             }
-            town.walls |= 1L << number;
+            town.walls |= 1L << cell;
             return true;
         }
 
         private boolean readStair(Town town) {
             if (Long.bitCount(town.stairs) >= MOST_STAIRS) {
-                return refuse(2, spot);
+                return refuse(2, placeHere);
             }
-            spot++;
-            if (!takeCell(town)) {
+            goTo(spot + 1);
+            int cell = takeCell(town);
+            if (cell < 0) {
                 return false;
             }
-            if (bitOf(town.stairs, number) == 1) {
-                return refuse(3, spot - 1);
+            if (bitOf(town.stairs, cell) == 1) {
+                return refuse(3, placeAhead);
             }
-            if (bitOf(town.walls, number) == 1) {
-                return refuse(5, spot - 1);
+            if (bitOf(town.walls, cell) == 1) {
+                return refuse(5, placeAhead);
             }
-            town.stairs |= 1L << number;
+            town.stairs |= 1L << cell;
             return true;
         }
 
         private boolean readThing(Town town) {
             if (town.things >= MOST_THINGS) {
-                return refuse(2, spot);
+                return refuse(2, placeHere);
             }
-            spot++;
-            if (!takeNewName(town.thingNames, town.things) || !takeNumber(0, 99)) {
+            goTo(spot + 1);
+            int name = takeNewName(town.thingNames, town.things);
+            int worth = name < 0 ? NONE : takeNumber(0, 99);
+            int cell = worth < 0 ? NONE : takeCell(town);
+            if (cell < 0) {
                 return false;
             }
-            int worth = number;
-            if (!takeCell(town)) {
-                return false;
-            }
-            if (bitOf(town.walls, number) == 1 || indexOf(town.places, town.things, number) >= 0) {
-                return refuse(5, spot - 1);
+            if (bitOf(town.walls, cell) == 1 || indexOf(town.places, town.things, cell) >= 0) {
+                return refuse(5, placeAhead);
             }
             put(town.thingNames, town.things, name);
             put(town.worths, town.things, worth);
-            put(town.places, town.things, number);
+            put(town.places, town.things, cell);
             town.things++;
             return true;
         }
 
         private boolean readSeed(Town town) {
             if (seedTold) {
-                return refuse(3, spot);
+                return refuse(3, placeHere);
             }
             seedTold = true;
-            spot++;
-            if (!takeNumber(0, 99999)) {
-                return false;
-            }
-            town.seed = number;
-            return true;
+            goTo(spot + 1);
+            int seed = takeNumber(0, 99999);
+            town.seed = seed;
+            return seed >= 0;
         }
 
         private boolean readLaw(Town town) {
-            spot++;
-            int kind = kindHere();
+            goTo(spot + 1);
             if (kind != PUSH && kind != JOY) {
-                return refuse(1, spot);
+                return refuse(1, placeHere);
             }
-            Formula law = kind == PUSH ? town.push : town.joy;
-            if (law.told) {
-                return refuse(3, spot);
+            Formula formula = kind == PUSH ? town.push : town.joy;
+            if (formula.told) {
+                return refuse(3, placeHere);
             }
-            int bad = formulas.read(tokens, spot + 1, town, law);
-            spot = formulas.spot;
-            return bad == 0 || refuse(bad, spot);
+            int bad = tokens == null ? 1 : formula.read(tokens, spot + 1, town);
+            goTo(formula.spot);
+            return bad == 0 || refuse(bad, placeHere);
         }
 
-        private int kindHere() {
-            return tokens == null ? END : tokens.kindAt(spot);
+        private void goTo(int i) {
+            placeAhead = placeHere;
+            spot = i;
+            kind = tokens == null ? END : look(tokens.kinds, i);
+            value = tokens == null ? 0 : look(tokens.values, i);
+            placeHere = tokens == null ? NONE : look(tokens.places, i);
         }
 
-        private boolean refuse(int kind, int at) {
-            fault = kind;
-            place = tokens == null ? NONE : look(tokens.places, at);
+        private boolean refuse(int why, int where) {
+            fault = why;
+            place = where;
             return false;
         }
 
-        private boolean take(int kind) {
-            if (kindHere() != kind) {
-                return refuse(1, spot);
+        private boolean take(int due) {
+            if (kind != due) {
+                return refuse(1, placeHere);
             }
-            spot++;
+            goTo(spot + 1);
             return true;
         }
 
-        private boolean takeName() {
-            name = tokens == null ? 0 : look(tokens.values, spot);
-            return take(NAME);
+        /** NONE with a FAULT, as all that is taken. */
+        private int takeNewName(int[] names, int much) {
+            int name = value;
+            if (!take(NAME)) {
+                return NONE;
+            }
+            if (indexOf(names, much, name) >= 0) {
+                refuse(3, placeAhead);
+                return NONE;
+            }
+            return name;
         }
 
-        private boolean takeNewName(int[] names, int much) {
-            if (!takeName()) {
-                return false;
+        private int takeNumber(int least, int most) {
+            int number = value;
+            if (kind == NUMBER && (number < least || number > most)) {
+                refuse(2, placeHere);
+                return NONE;
             }
-            return indexOf(names, much, name) < 0 || refuse(3, spot - 1);
+            return take(NUMBER) ? number : NONE;
         }
 
-        private boolean takeNumber(int least, int most) {
-            number = tokens == null ? 0 : look(tokens.values, spot);
-            if (kindHere() == NUMBER && (number < least || number > most)) {
-                return refuse(2, spot);
-            }
-            return take(NUMBER);
-        }
-
-        /** x and y; the CELL is the number then. */
-        private boolean takeCell(Town town) {
-            if (!takeNumber(0, town.wide - 1)) {
-                return false;
-            }
-            int x = number;
-            if (!takeNumber(0, town.high - 1)) {
-                return false;
-            }
-            number = number * town.wide + x;
-            return true;
+        private int takeCell(Town town) {
+            int x = takeNumber(0, town.wide - 1);
+            int y = x < 0 ? NONE : takeNumber(0, town.high - 1);
+            return y < 0 ? NONE : y * town.wide + x;
         }
     }
 
-    /** Reads an E: its signs wait here till what they join is there. */
-    private static final class Formulas {
+    /** An E: its KNOTS, each behind what it joins. */
+    private static final class Formula {
+        private static final long MOST = 1000000000000L;
+
+        final int[] kinds = new int[MOST_KNOTS];
+        final int[] numbers = new int[MOST_KNOTS];
+        final long[] stack = new long[MOST_KNOTS];
+        int length;
+        boolean told;
+        /** While it is read: the signs that wait till what they join is there. */
         final int[] waiting = new int[MOST_KNOTS + MOST_OPEN];
         int waits;
         int spot;
@@ -1165,8 +1159,13 @@ public final class WardFalls {
         boolean wantsPart;
         boolean mayNot;
 
+        void clear() {
+            length = 0;
+            told = false;
+        }
+
         /** The FAULT at the spot; 0, with the spot at the ';' behind the E. */
-        int read(Tokens tokens, int from, Town town, Formula into) {
+        int read(Tokens tokens, int from, Town town) {
             spot = from;
             waits = 0;
             depth = 0;
@@ -1174,14 +1173,13 @@ public final class WardFalls {
             wantsPart = true;
             mayNot = true;
             for (int i = 0; i <= MOST_BYTES; i++) {
-                int kind = tokens.kindAt(spot);
+                int kind = look(tokens.kinds, spot);
                 if (kind == SEMICOLON && !wantsPart && depth == 0) {
-                    release(into, 1);
-                    into.told = true;
+                    release(1);
+                    told = true;
                     return 0;
                 }
-                int bad = wantsPart ? readPart(kind, look(tokens.values, spot), town, into)
-                        : readSign(kind, town, into);
+                int bad = wantsPart ? readPart(kind, look(tokens.values, spot), town) : readSign(kind, town);
                 if (bad != 0) {
                     return bad;
                 }
@@ -1190,7 +1188,7 @@ public final class WardFalls {
             return 1;
         }
 
-        private int readPart(int kind, int value, Town town, Formula into) {
+        private int readPart(int kind, int value, Town town) {
             if (kind == OPEN) {
                 if (depth >= MOST_OPEN) {
                     return 2;
@@ -1202,7 +1200,7 @@ public final class WardFalls {
                 return 0;
             }
             boolean isNot = kind == NOT && mayNot;
-            if (!isNot && kind != NUMBER && !Formula.isName(kind)) {
+            if (!isNot && kind != NUMBER && !isName(kind)) {
                 return 1;
             }
             if (town.knots >= MOST_KNOTS || kind == NUMBER && value > 9999) {
@@ -1212,18 +1210,18 @@ public final class WardFalls {
             if (isNot) {
                 await(NOT);
             } else {
-                into.add(kind, value);
+                add(kind, value);
                 wantsPart = false;
             }
             return 0;
         }
 
-        private int readSign(int kind, Town town, Formula into) {
+        private int readSign(int kind, Town town) {
             if (kind == CLOSE) {
                 if (depth == 0) {
                     return 1;
                 }
-                release(into, 1);
+                release(1);
                 waits--;
                 depth--;
                 return 0;
@@ -1237,7 +1235,7 @@ public final class WardFalls {
                 return 2;
             }
             town.knots++;
-            release(into, strength);
+            release(strength);
             await(kind);
             wantsPart = true;
             mayNot = strength < COMPARING;
@@ -1255,16 +1253,26 @@ public final class WardFalls {
         }
 
         /** The signs that bind at least so strongly have both their sides: up to the last '('. */
-        private void release(Formula into, int strength) {
+        private void release(int strength) {
             while (waits > 0) {
                 int sign = look(waiting, waits - 1);
                 int binds = sign == NOT ? COMPARING - 1 : strengthOf(sign);
                 if (binds < strength) {
                     return;
                 }
-                into.add(sign, 0);
+                add(sign, 0);
                 waits--;
             }
+        }
+
+        private void add(int kind, int number) {
+            put(kinds, length, kind);
+            put(numbers, length, number);
+            length++;
+        }
+
+        private static boolean isName(int kind) {
+            return kind >= RICH && kind <= YEAR;
         }
 
         /** 0: this can't stand between two parts. */
@@ -1290,32 +1298,6 @@ public final class WardFalls {
                 default:
                     return 0;
             }
-        }
-    }
-
-    /** An E: its KNOTS, each behind what it joins. */
-    private static final class Formula {
-        private static final long MOST = 1000000000000L;
-
-        final int[] kinds = new int[MOST_KNOTS];
-        final int[] numbers = new int[MOST_KNOTS];
-        final long[] stack = new long[MOST_KNOTS];
-        int length;
-        boolean told;
-
-        void clear() {
-            length = 0;
-            told = false;
-        }
-
-        void add(int kind, int number) {
-            put(kinds, length, kind);
-            put(numbers, length, number);
-            length++;
-        }
-
-        static boolean isName(int kind) {
-            return kind >= RICH && kind <= YEAR;
         }
 
         /** Its value by those of the NAMES; ERROR, too, if it isn't told. */
@@ -1502,7 +1484,7 @@ public final class WardFalls {
         }
 
         int downOf(Town town, int cell) {
-            int owner = town.ownerOf(cell);
+            int owner = look(town.owners, cell);
             return owner < 0 ? STILL : look(downs, owner);
         }
 
@@ -1770,6 +1752,10 @@ public final class WardFalls {
         final int[] worths = new int[MOST_WARDS];
         final int[] crossings = new int[MOST_WARDS];
         final Trail trail = new Trail();
+        final int[] joys = new int[MOST_WARDS * ALL_VOTES];
+        int wards;
+        int allVotes;
+        boolean votesTried;
 
         /** Where each THING comes to REST: joyOf and joyTold answer by that. */
         void measure(Town town, Scene scene) {
@@ -1837,34 +1823,24 @@ public final class WardFalls {
             }
         }
 
-        private void name(int name, long value) {
-            int i = name - RICH;
-            if (i >= 0 && i < names.length) {
-                names[i] = value;
+        /** All JOY by all VOTES, tried on a copy; it stands till something else than a DOWN is otherwise. */
+        void tryVotes(Town town, Scene scene, Scene trial, int year) {
+            if (votesTried) {
+                return;
             }
-        }
-    }
-
-    /** The JOY of all WARDS by all VOTES. */
-    private static final class Votes {
-        final int[] joys = new int[MOST_WARDS * ALL_VOTES];
-        int wards;
-        int all;
-        boolean ready;
-
-        void fill(Town town, Scene trial, Laws laws, int year) {
+            votesTried = true;
+            trial.copy(scene);
             wards = town.wards;
-            all = 1 << 2 * wards;
-            for (int by = 0; by < all; by++) {
+            allVotes = 1 << 2 * wards;
+            for (int by = 0; by < allVotes; by++) {
                 for (int ward = 0; ward < wards; ward++) {
                     put(trial.downs, ward, by >> 2 * ward & 3);
                 }
-                laws.measure(town, trial);
+                measure(town, trial);
                 for (int ward = 0; ward < wards; ward++) {
-                    put(joys, ward * ALL_VOTES + by, laws.joyOf(town, ward, year));
+                    put(joys, ward * ALL_VOTES + by, joyOf(town, ward, year));
                 }
             }
-            ready = true;
         }
 
         int joyBy(int ward, int by) {
@@ -1890,6 +1866,13 @@ public final class WardFalls {
                 }
             }
             return by;
+        }
+
+        private void name(int name, long value) {
+            int i = name - RICH;
+            if (i >= 0 && i < names.length) {
+                names[i] = value;
+            }
         }
     }
 
@@ -2011,7 +1994,9 @@ public final class WardFalls {
             return by < 0 ? much : by;
         }
 
-        void findFits(Town town, Scene trial, Trail trail) {
+        /** Tries all DOWNS on a copy. */
+        void findFits(Town town, Scene scene, Scene trial, Trail trail) {
+            trial.copy(scene);
             int bits = knownBits();
             int all = 1;
             for (int i = 0; i < town.wards; i++) {
