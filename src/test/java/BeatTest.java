@@ -40,6 +40,7 @@ public final class BeatTest {
         WardFalls y = row("thing p 1 3 0;thing q 1 2 0;part b 4 0 4 0;");
         // By numbers: p leaves 3 first, so q can follow at once.
         CHECKS.due("13 one behind another", y.beats(1), 2);
+        CHECKS.due("13 behind the first thing", row("wall 4 0;thing p 1 3 0;thing q 1 2 0;").beats(9), 0);
         CHECKS.due("13 round", row("thing p 1 3 0;part b 4 0 4 0;").beats(200), 200);
         CHECKS.due("13 no things", new WardFalls().beats(3), 0);
     }
@@ -149,6 +150,9 @@ public final class BeatTest {
         CHECKS.due("42 dry", x.count(10), 0);
         CHECKS.due("42 two to undo", x.count(9), 2);
         CHECKS.due("18 again", x.drain(), 0);
+        x.pour(0, 1);
+        CHECKS.due("18 one", x.drain(), 1);
+        CHECKS.due("42 dry", x.count(10), 0);
     }
 
     private static void flooded() {
@@ -170,6 +174,7 @@ public final class BeatTest {
         CHECKS.due("14 a flood behind a vote", x.cell(0, 4), 1);
         CHECKS.due("14 a flood behind a vote", x.cell(1, 4), 1);
         CHECKS.due("14 a flood behind a vote", x.count(10), 2);
+        CHECKS.due("19 from the first cell on", x.flood(0, 1), 12);
         x.net(1, true);
         x.net(1, false);
         CHECKS.due("15 no flood behind a net", x.cell(1, 4), 1);

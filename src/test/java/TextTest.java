@@ -115,6 +115,9 @@ public final class TextTest {
         CHECKS.faulty("wall 0 0 0;", 1, 9);
         CHECKS.faulty("wall 0 0;.", 1, 9);
         CHECKS.faulty("part a", 4, 5);
+        CHECKS.faulty("part ;", 1, 5);
+        CHECKS.faulty("thing ;", 1, 6);
+        CHECKS.faulty("ward ;", 1, 5);
         CHECKS.faulty("law joy 1 law;", 1, 10);
         CHECKS.faulty("law rich 1;", 1, 4);
         CHECKS.faulty("seed;", 1, 4);
@@ -127,6 +130,9 @@ public final class TextTest {
         CHECKS.faulty("town 0 1;", 2, 5);
         CHECKS.faulty("town 8 0;", 2, 7);
         CHECKS.faulty("town 9 9;", 2, 5);
+        CHECKS.faulty("town 8 7;", 2, 7);
+        CHECKS.good("seed 0;", 1);
+        CHECKS.faulty("ward a up 100;", 2, 10);
         CHECKS.faulty("town 99999999999999999999 1;", 2, 5);
         CHECKS.faulty("town 4294967297 1;", 2, 5);
         CHECKS.good("seed 99999;", 1);
@@ -225,6 +231,7 @@ public final class TextTest {
         CHECKS.faulty("law joy 1<2<3;", 1, 11);
         CHECKS.good("law joy 1<2 and 3<4 or not 5<6;", 1);
         CHECKS.good("law joy 1<(2<3);", 1);
+        CHECKS.good("law joy (1<2)+(3<4);", 1);
         CHECKS.faulty("law joy (1<2)<3=4;", 1, 15);
         CHECKS.good("law joy 1<=2 or 1<>2 or 1>=2 or 1>2 or 1=2 or 1<2;", 1);
         CHECKS.faulty("law joy 1< =2;", 1, 11);

@@ -56,6 +56,9 @@ public final class TownTest {
         CHECKS.due("6 still", x.vote(2, 4), true);
         CHECKS.due("6 stands 8, still", x.cell(8, 7), 0);
         CHECKS.due("6 stands 9, a stair", x.cell(9, 7), 1);
+        CHECKS.due("14 up", x.vote(0, 0), true);
+        CHECKS.due("6 the first cell is below", x.cell(4, 7), 0);
+        CHECKS.due("6 stands at the edge", x.cell(0, 7), 1);
         WardFalls y = new WardFalls();
         CHECKS.due("6 nobody's", y.cell(15, 0), -1);
         CHECKS.due("6 nobody's", y.cell(15, 6), -1);
@@ -234,6 +237,13 @@ public final class TownTest {
         worth("not 0 and 0", 0);
         worth("1 or 1 and 0", 1);
         worth("3 and 4", 1);
+        worth("1 and 1", 1);
+        worth("(0 or 1)*5", 5);
+        worth("(1 and 0)+5", 5);
+        worth("(not 0)+5", 6);
+        worth("not ".repeat(63) + "1", 0);
+        worth("((((((((" + "not ".repeat(63) + "1))))))))", 0);
+        worth("((((((((" + "not ".repeat(62) + "1))))))))", 1);
         worth("3 and 0", 0);
         worth("0 or 7", 1);
         worth("0 or 0", 0);

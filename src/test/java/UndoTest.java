@@ -161,6 +161,8 @@ public final class UndoTest {
         for (int i = 0; i < due.length; i++) {
             CHECKS.due("42 count(" + i + ")", x.count(i), due[i]);
         }
+        CHECKS.due("42 a next in the first cell", Checks.town("town 3 1;ward a left 0;part a 0 0 2 0;thing p 1 1 0;")
+                .count(12), 1);
         WardFalls y = row();
         CHECKS.due("42 a thing ahead of another has a next", y.count(12), 2);
         y.net(0, true);

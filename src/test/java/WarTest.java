@@ -44,6 +44,7 @@ public final class WarTest {
         CHECKS.due("25 none", x.nets(), 0);
         WardFalls y = Checks.town("town 8 6;ward a right 0;ward b left 0;part a 6 5 6 5;part b 7 5 7 5;");
         CHECKS.due("25 the highest bits", y.nets(), 3L << 46);
+        CHECKS.due("25 the first cell", Checks.town("ward a right 0;part a 0 0 0 0;").nets(), 1);
         CHECKS.due("25 no wards", new WardFalls().nets(), 0);
     }
 

@@ -116,6 +116,8 @@ public final class YearTest {
         CHECKS.due("42 no beats", x.count(6), 0);
         CHECKS.due("42 still to undo", x.count(9), 2);
         CHECKS.due("6 the wall stays", x.cell(3, 1), 1);
+        CHECKS.due("38 no wall in the first cell", Checks.town("town 3 1;ward a left 0;part a 0 0 2 0;wall 0 0;"
+                + "thing p 1 2 0;").tried(2, 0, 9), 2);
         CHECKS.due("38 two through one another", Checks.town("town 2 1;ward a right 0;ward b left 0;part a 0 0 0 0;"
                 + "part b 1 0 1 0;thing p 1 0 0;thing q 1 1 0;").tried(1, 0, 10), 20);
     }
