@@ -15,10 +15,10 @@ public final class AgainTest {
     private static void texts() {
         WardFalls x = new WardFalls();
         String full = "town 8 1;ward a right 7;ward b up 0;part a 0 0 5 0;seed 5;wall 7 0;stair 6 0;thing p 9 0 0;"
-                + "law joy (1<2)+0;law push 3;";
+                + "law joy (1<2)+0<9;law push 3;";
         for (int i = 0; i < 4; i++) {
             CHECKS.due("3 all", Checks.load(x, full), 10);
-            int[] counts = {8, 1, 2, 1, 6, 0, 0, 0, 0, 0, 0, 0, 1};
+            int[] counts = {8, 1, 2, 1, 8, 0, 0, 0, 0, 0, 0, 0, 1};
             for (int k = 0; k < counts.length; k++) {
                 CHECKS.due("42 count(" + k + ")", x.count(k), counts[k]);
             }
@@ -53,7 +53,16 @@ public final class AgainTest {
         CHECKS.due("9 no joy", x.law(1, 0, 0), Long.MIN_VALUE);
         CHECKS.due("7 no size", x.ward(0, 2), 0);
         x.years(1);
+        CHECKS.due("37 seed 0", x.voted(0, 0), 0);
         CHECKS.due("37 seed 0", x.voted(0, 0), firstOf("ward a up 0;ward b up 0;"));
+        WardFalls none = Checks.town("ward a up 0;ward b up 0;ward c up 0;");
+        WardFalls told = Checks.town("ward a up 0;ward b up 0;ward c up 0;seed 0;");
+        none.years(20);
+        told.years(20);
+        for (int i = 0; i < 20; i++) {
+            CHECKS.due("37 seed 0 is that without", none.voted(i, 0), told.voted(i, 0));
+            CHECKS.due("37 seed 0 is that without", none.voted(i, 1), told.voted(i, 1));
+        }
     }
 
     private static int firstOf(String text) {
